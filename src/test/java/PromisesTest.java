@@ -247,6 +247,9 @@ public final class PromisesTest {
         x.store(0, 1, 1);
         x.expunge(0);
         Due.is("7 not one taken out", x.changedSince(0, 0, 0), 2);
+        x.store(0, 2, 1);
+        x.expunge(0);
+        Due.is("7 not the last one when it is taken out", x.changedSince(0, 0, 2), NONE);
         for (int m : WRONG_MAILBOXES) {
             Due.is("7 changedSince(" + m + ", 0, 0)", x.changedSince(m, 0, 0), BAD);
         }
@@ -266,8 +269,11 @@ public final class PromisesTest {
         x.appendAndCrash(0, 32, 3);
         Due.is("8 vanished(0, 5), it never came", x.vanished(0, 5), 0);
         x.select(0, 0);
+        x.store(0, 1, 1);
         x.store(0, 3, 1);
         x.expunge(0);
+        Due.is("8 vanished(0, 1), the first one", x.vanished(0, 1), 1);
+        Due.is("8 vanished(0, 3)", x.vanished(0, 3), 0);
         Due.is("8 vanished(0, 4), the last one", x.vanished(0, 4), 1);
         for (int m : WRONG_MAILBOXES) {
             Due.is("8 vanished(" + m + ", 2)", x.vanished(m, 2), BAD);
@@ -366,6 +372,7 @@ public final class PromisesTest {
         for (int s : WRONG_SESSIONS) {
             Due.is("13 placeOf(" + s + ", 1)", x.placeOf(s, 1), BAD);
         }
+        Due.is("13 placeOf(0, 1)", x.placeOf(0, 1), 1);
         Due.is("13 placeOf(0, 2), gone", x.placeOf(0, 2), 2);
         Due.is("13 placeOf(1, 2)", x.placeOf(1, 2), NONE);
         Due.is("13 placeOf(1, 4)", x.placeOf(1, 4), 3);
