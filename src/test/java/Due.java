@@ -22,6 +22,14 @@ final class Due {
         }
     }
 
+    static void same(String what, String got, String want) {
+        seen++;
+        if (!got.equals(want)) {
+            wrong++;
+            System.out.println(what + " is\n  " + got + "\ndue is\n  " + want);
+        }
+    }
+
     static boolean allWell() {
         return wrong == 0;
     }
