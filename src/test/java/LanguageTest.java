@@ -18,7 +18,9 @@ public final class LanguageTest {
         Tree.Kind.THROW, Tree.Kind.TRY, Tree.Kind.CATCH, Tree.Kind.SYNCHRONIZED, Tree.Kind.ASSERT, Tree.Kind.INSTANCE_OF,
         Tree.Kind.LAMBDA_EXPRESSION, Tree.Kind.MEMBER_REFERENCE, Tree.Kind.NEW_CLASS, Tree.Kind.IMPORT, Tree.Kind.PACKAGE,
         Tree.Kind.STRING_LITERAL, Tree.Kind.NULL_LITERAL, Tree.Kind.FLOAT_LITERAL, Tree.Kind.DOUBLE_LITERAL, Tree.Kind.INTERFACE,
-        Tree.Kind.ENUM, Tree.Kind.RECORD, Tree.Kind.ENHANCED_FOR_LOOP, Tree.Kind.ANNOTATION, Tree.Kind.MEMBER_SELECT);
+        Tree.Kind.ENUM, Tree.Kind.RECORD, Tree.Kind.ANNOTATION, Tree.Kind.MEMBER_SELECT,
+        // The language would let while and do be; without them, the end of every loop is one line to look at.
+        Tree.Kind.WHILE_LOOP, Tree.Kind.DO_WHILE_LOOP, Tree.Kind.ENHANCED_FOR_LOOP);
 
     private final Map<String, Set<String>> callsOf = new TreeMap<>();
     private CompilationUnitTree unit;
@@ -71,6 +73,8 @@ public final class LanguageTest {
         positions = Trees.instance(task).getSourcePositions();
         new Rules().scan(unit, null);
         for (String method : callsOf.keySet()) {
+            // Neither the library's methods nor those that every object has can be called then.
+            Due.holds(method + " calls only methods of the class", callsOf.keySet().containsAll(callsOf.get(method)));
             Due.holds("calls of " + method + " go at most six deep, without recursion", depth(method, 0) <= 6);
         }
     }
@@ -119,12 +123,33 @@ public final class LanguageTest {
             String type = tree.getType().toString();
             String of = type.endsWith("[]") ? type.substring(0, type.length() - 2) : type;
             Due.holds("type of " + tree.getName(), TYPES.contains(of));
-            if (tree.getModifiers().getFlags().contains(javax.lang.model.element.Modifier.STATIC)) {
+            boolean isStatic = tree.getModifiers().getFlags().contains(javax.lang.model.element.Modifier.STATIC);
+            boolean isFinal = tree.getModifiers().getFlags().contains(javax.lang.model.element.Modifier.FINAL);
+            if (isStatic) {
                 Due.holds("static " + tree.getName() + " is int or long", type.equals("int") || type.equals("long"));
-                boolean isFinal = tree.getModifiers().getFlags().contains(javax.lang.model.element.Modifier.FINAL);
                 Due.holds("static " + tree.getName() + " is a constant", isFinal && tree.getInitializer() != null);
+            } else if (method == null && type.endsWith("[]")) {
+                Due.holds("the array " + tree.getName() + " is made once", isFinal && tree.getInitializer() != null);
             }
             return super.visitVariable(tree, nothing);
+        }
+
+        @Override
+        public Void visitForLoop(ForLoopTree tree, Void nothing) {
+            long line = lineOf(positions.getStartPosition(unit, tree));
+            Due.holds("line " + line + ": the loop counts up one counter", tree.getUpdate().size() == 1
+                && tree.getUpdate().get(0).getExpression().getKind() == Tree.Kind.POSTFIX_INCREMENT);
+            Tree.Kind end = tree.getCondition() == null ? null : tree.getCondition().getKind();
+            Due.holds("line " + line + ": against a bound", end == Tree.Kind.LESS_THAN || end == Tree.Kind.LESS_THAN_EQUAL);
+            return super.visitForLoop(tree, nothing);
+        }
+
+        @Override
+        public Void visitBinary(BinaryTree tree, Void nothing) {
+            boolean divides = tree.getKind() == Tree.Kind.DIVIDE || tree.getKind() == Tree.Kind.REMAINDER;
+            Due.holds("the divisor of " + tree + " is a constant that is not 0",
+                !divides || tree.getRightOperand().toString().equals("FLAG_SETS"));
+            return super.visitBinary(tree, nothing);
         }
 
         @Override
